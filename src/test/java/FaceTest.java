@@ -38,6 +38,7 @@ public final class FaceTest {
       shown.add(method.getName() + " " + method.getParameterCount());
       due(method + " is static", Modifier.isStatic(method.getModifiers()), false);
       due(method + " answers", method.getReturnType(), int.class);
+      due(method + " declares exceptions", method.getExceptionTypes().length, 0);
       for (Class<?> type : method.getParameterTypes()) due(method + " takes", type, int.class);
     }
     due("the public methods", shown, new TreeSet<>(FACE));
@@ -48,35 +49,57 @@ public final class FaceTest {
   private static void fields() {
     Set<String> constants = new TreeSet<>();
     for (Field field : StyledText.class.getDeclaredFields()) {
-      if (isPublic(field)) constants.add(field.getName());
+      if (isPublic(field)) {
+        constants.add(field.getName());
+        due(field + " has the type", field.getType(), int.class);
+      }
       boolean fixed = Modifier.isFinal(field.getModifiers());
       if (Modifier.isStatic(field.getModifiers())) {
-        due(field + " is a constant number", fixed && (field.getType() == int.class || field.getType() == long.class), true);
+        due(field + " is a constant", fixed, true);
+        due(field + " is a number", field.getType() == int.class || field.getType() == long.class, true);
       } else {
         due(field + " is private", Modifier.isPrivate(field.getModifiers()), true);
         due(field + " keeps its array", fixed || !field.getType().isArray(), true);
       }
     }
     due("the public constants", constants, new TreeSet<>(Set.of("BAD_ARG", "FULL", "NONE")));
-    due("BAD_ARG", StyledText.BAD_ARG, -1);
-    due("FULL", StyledText.FULL, -2);
-    due("NONE", StyledText.NONE, -4);
+  }
+
+  /** A case label must be a constant that the compiler knows, so this would not compile with another kind of field. */
+  private static String nameOf(int code) {
+    switch (code) {
+      case StyledText.BAD_ARG: return "BAD_ARG";
+      case StyledText.FULL: return "FULL";
+      case StyledText.NONE: return "NONE";
+      default: return "none of them";
+    }
+  }
+
+  private static void codes() {
+    due("-1", nameOf(-1), "BAD_ARG");
+    due("-2", nameOf(-2), "FULL");
+    due("-3", nameOf(-3), "none of them");
+    due("-4", nameOf(-4), "NONE");
   }
 
   private static void classItself() {
     due("the class is public and final", StyledText.class.getModifiers(), Modifier.PUBLIC | Modifier.FINAL);
     due("nested classes", StyledText.class.getDeclaredClasses().length, 0);
     due("superclass", StyledText.class.getSuperclass(), Object.class);
+    due("interfaces", StyledText.class.getInterfaces().length, 0);
+    due("the package", StyledText.class.getPackageName(), "");
     Constructor<?>[] constructors = StyledText.class.getDeclaredConstructors();
     due("constructors", constructors.length, 1);
     due("the constructor is public", isPublic(constructors[0]), true);
     due("the constructor's parameters", constructors[0].getParameterCount(), 0);
+    due("the constructor's exceptions", constructors[0].getExceptionTypes().length, 0);
   }
 
   public static void main(String[] args) {
     classItself();
     methods();
     fields();
+    codes();
     System.out.println(wrong == 0 ? "the face is as due" : wrong + " things are not as due");
     if (wrong != 0) System.exit(1);
   }
